@@ -1,0 +1,170 @@
+import java.lang.reflect.Constructor;
+import java.lang.reflect.Field;
+import java.lang.reflect.Method;
+import java.lang.reflect.Modifier;
+import java.nio.charset.StandardCharsets;
+import java.nio.file.Files;
+import java.nio.file.Path;
+import java.util.Arrays;
+import java.util.TreeSet;
+import java.util.regex.Matcher;
+import java.util.regex.Pattern;
+
+/** The rules of LANGUAGE.md that can be seen from outside or from the words of the source. */
+public final class LanguageTest {
+    private static final String[] FACE = {
+        "int bar(int,int,int)", "int arrow(int,int)", "int addAll()", "int takeBar(int)",
+        "int takeArrow(int)", "int move(int,int,int)", "int swap(int,int)", "int pack()",
+        "int slip(int,int)", "int pull(int)", "int width(int,int,int)", "int set(int,int)",
+        "int type(char)", "int clearText()", "int fault()", "int undo()", "int keep()", "int restore()",
+        "int barOf(int,int)", "int arrowOf(int,int)", "int reason(int,int)", "int cell(int,int)",
+        "int strip(int,int)", "int count(int)", "int latest(int)", "int longest()", "double share()",
+        "int ifSlipped(int,int)", "int bestSwap(int)", "int bestLane(int)"};
+    private static final String[] CONSTANTS = {"UNKNOWN", "BAD_VALUE", "FULL", "NOT_POSSIBLE", "NONE"};
+    private static final String[] FORBIDDEN = {"->", "::", "\\bcatch\\b", "\\btry\\b", "\\bfinally\\b",
+        "\\bthrow\\b", "\\bthrows\\b", "\\bsynchronized\\b", "\\bassert\\b", "Exact\\b", "\\bpackage\\b",
+        "\\bThread\\b", "\\bRandom\\b", "\\bcurrentTime", "\\bnanoTime\\b", "\\bSystem\\.(?!arraycopy\\b)",
+        "\\bObject\\b", "\\bequals\\b", "\\bhashCode\\b", "\\btoString\\b", "\\bstatic \\{",
+        "\\bprotected\\b", "\"", "\\bvar\\b", "\\bMath\\.(?!max\\b|min\\b|abs\\b)"};
+    private static final int LONGEST_METHOD = 60;
+
+    private static int failed;
+
+    public static void main(String[] args) throws Exception {
+        String source = Files.readString(Path.of("src/main/java/BarStrips.java"), StandardCharsets.UTF_8);
+        String code = withoutComments(source);
+        test("the face is the document's (rule 1)", face());
+        test("no private method bears the name of a public one (rule 1)", names());
+        test("static fields are final (rule 5)", statics());
+        test("nothing forbidden is in the source (rules 2 to 6, 13)", words(code));
+        test("no library but Arrays is imported (rule 4)", imports(code));
+        test("methods are short (rule 11)", lengths(code));
+        test("few classes, few fields (rule 11)", sizes());
+        test("signs are plain (rule 4)", source.chars().allMatch(c -> c == '\n' || c >= 32 && c < 127));
+        if (failed > 0) {
+            System.exit(1);
+        }
+    }
+
+    private static void test(String name, boolean good) {
+        System.out.println((good ? "ok " : "FAILED ") + name);
+        failed += good ? 0 : 1;
+    }
+
+    private static String withoutComments(String source) {
+        return source.replaceAll("(?s)/\\*.*?\\*/", "").replaceAll("//[^\n]*", "");
+    }
+
+    private static boolean face() {
+        TreeSet<String> due = new TreeSet<>(Arrays.asList(FACE));
+        due.addAll(Arrays.asList(CONSTANTS));
+        due.add("()");
+        TreeSet<String> seen = new TreeSet<>();
+        for (Method m : BarStrips.class.getDeclaredMethods()) {
+            if (!Modifier.isPrivate(m.getModifiers())) {
+                seen.add(m.getReturnType() + " " + m.getName() + types(m.getParameterTypes()));
+            }
+        }
+        for (Constructor<?> c : BarStrips.class.getDeclaredConstructors()) {
+            seen.add(types(c.getParameterTypes()));
+        }
+        for (Field f : BarStrips.class.getDeclaredFields()) {
+            if (!Modifier.isPrivate(f.getModifiers())) {
+                seen.add(f.getName());
+            }
+        }
+        int modifiers = BarStrips.class.getModifiers();
+        return seen.equals(due) && Modifier.isPublic(modifiers) && Modifier.isFinal(modifiers);
+    }
+
+    private static String types(Class<?>[] types) {
+        StringBuilder names = new StringBuilder("(");
+        for (Class<?> type : types) {
+            names.append(names.length() > 1 ? "," : "").append(type.getName());
+        }
+        return names.append(')').toString();
+    }
+
+    private static boolean names() {
+        TreeSet<String> open = new TreeSet<>();
+        for (String method : FACE) {
+            open.add(method.replaceAll("^\\w+ |\\(.*", ""));
+        }
+        boolean good = true;
+        for (Class<?> inside : classes()) {
+            for (Method m : inside.getDeclaredMethods()) {
+                boolean faceItself = inside == BarStrips.class && Modifier.isPublic(m.getModifiers());
+                good = good && (faceItself || !open.contains(m.getName()));
+            }
+        }
+        return good;
+    }
+
+    private static Class<?>[] classes() {
+        Class<?>[] inside = BarStrips.class.getDeclaredClasses();
+        Class<?>[] all = Arrays.copyOf(inside, inside.length + 1);
+        all[inside.length] = BarStrips.class;
+        return all;
+    }
+
+    private static boolean statics() {
+        boolean good = true;
+        for (Class<?> inside : classes()) {
+            for (Field f : inside.getDeclaredFields()) {
+                int modifiers = f.getModifiers();
+                good = good && (!Modifier.isStatic(modifiers) || Modifier.isFinal(modifiers));
+            }
+        }
+        return good;
+    }
+
+    private static boolean words(String code) {
+        boolean good = true;
+        for (String word : FORBIDDEN) {
+            if (Pattern.compile(word).matcher(code).find()) {
+                System.out.println("in the source: " + word);
+                good = false;
+            }
+        }
+        return good;
+    }
+
+    private static boolean imports(String code) {
+        Matcher m = Pattern.compile("import [^;]*;").matcher(code);
+        boolean good = true;
+        while (m.find()) {
+            good = good && m.group().equals("import java.util.Arrays;");
+        }
+        return good && code.split("\\bjava\\.").length <= 2;
+    }
+
+    /** Counts the lines from a line that opens a method, by its indent, to the one that closes it. */
+    private static boolean lengths(String code) {
+        String[] lines = code.split("\n");
+        boolean good = true;
+        for (int i = 0; i < lines.length; i++) {
+            if (lines[i].matches("( {4}| {8})[^ }].*\\) \\{")) {
+                String close = lines[i].replaceAll("\\S.*", "") + "}";
+                int end = i;
+                while (end < lines.length && !lines[end].equals(close)) {
+                    end++;
+                }
+                good = good && end - i < LONGEST_METHOD;
+            }
+        }
+        return good;
+    }
+
+    private static boolean sizes() {
+        boolean good = classes().length <= 12;
+        for (Class<?> inside : classes()) {
+            int fields = 0;
+            for (Field f : inside.getDeclaredFields()) {
+                fields += Modifier.isStatic(f.getModifiers()) ? 0 : 1;
+            }
+            good = good && fields <= 20;
+            good = good && (inside == BarStrips.class || Modifier.isStatic(inside.getModifiers()));
+        }
+        return good;
+    }
+}

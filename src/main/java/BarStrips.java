@@ -923,8 +923,21 @@ public final class BarStrips {
         /** The bend of each arrow's slot, or NONE. */
         final int[] bend = new int[ARROWS];
         int undrawn;
+        /** For each bend a set of the lanes, a bit for each, in which one bar has both its days. */
+        final int[] barred = new int[DAYS];
+
+        void readBars(Chart chart) {
+            Arrays.fill(barred, 0);
+            for (int slot = 0; slot < chart.bars; slot++) {
+                int end = Math.min(DAYS, chart.endOf(slot));
+                for (int c = chart.first[slot] + 1; c < end; c++) {
+                    barred[c] |= 1 << chart.lane[slot];
+                }
+            }
+        }
 
         void draw(Chart chart) {
+            readBars(chart);
             undrawn = 0;
             for (int arrow = 0; arrow < chart.arrows; arrow++) {
                 bend[arrow] = choose(chart, arrow);
@@ -935,10 +948,11 @@ public final class BarStrips {
         int choose(Chart chart, int arrow) {
             int choice = chart.settings[CHOICE];
             int middle = chart.endOf(chart.from[arrow]) + chart.first[chart.to[arrow]];
+            int between = lanesBetween(chart, arrow);
             int high = highest(chart, arrow);
             int best = NONE;
             for (int c = lowest(chart, arrow); c <= high; c++) {
-                if (isShutBetween(chart, arrow, c)) {
+                if ((barred[c] & between) != 0) {
                     continue;
                 }
                 if (choice == 0) {
@@ -953,10 +967,12 @@ public final class BarStrips {
         }
 
         int freeBends(Chart chart, int arrow) {
+            readBars(chart);
             int free = 0;
+            int between = lanesBetween(chart, arrow);
             int high = highest(chart, arrow);
             for (int c = lowest(chart, arrow); c <= high; c++) {
-                free += isShutBetween(chart, arrow, c) ? 0 : 1;
+                free += (barred[c] & between) == 0 ? 1 : 0;
             }
             return free;
         }
@@ -971,7 +987,8 @@ public final class BarStrips {
             if (c < lowest(chart, arrow)) {
                 return 3;
             }
-            return isShutBetween(chart, arrow, c) ? 4 : 0;
+            readBars(chart);
+            return (barred[c] & lanesBetween(chart, arrow)) == 0 ? 0 : 4;
         }
 
         /** The last bend ahead of which no bar lies in the lane from which the arrow leads. */
@@ -998,20 +1015,13 @@ public final class BarStrips {
             return low;
         }
 
-        boolean isShutBetween(Chart chart, int arrow, int c) {
-            for (int slot = 0; slot < chart.bars; slot++) {
-                if (chart.first[slot] < c && c < chart.endOf(slot)
-                        && isBetween(chart, arrow, chart.lane[slot])) {
-                    return true;
-                }
-            }
-            return false;
-        }
-
-        boolean isBetween(Chart chart, int arrow, int lane) {
+        /** The set of the lanes, a bit for each, that are strictly between the arrow's two. */
+        int lanesBetween(Chart chart, int arrow) {
             int one = chart.lane[chart.from[arrow]];
             int other = chart.lane[chart.to[arrow]];
-            return lane > Math.min(one, other) && lane < Math.max(one, other);
+            int upToUpper = (2 << Math.min(one, other)) - 1;
+            int aheadOfLower = (1 << Math.max(one, other)) - 1;
+            return aheadOfLower & ~upToUpper;
         }
 
         int pointsInAll(Chart chart) {
@@ -1047,7 +1057,7 @@ public final class BarStrips {
         }
 
         boolean passesThrough(Chart chart, int arrow, int other, int lane) {
-            return isBetween(chart, arrow, lane)
+            return (lanesBetween(chart, arrow) >> lane & 1) == 1
                     && goesAlong(chart, other, lane, bend[arrow] - 1)
                     && goesAlong(chart, other, lane, bend[arrow]);
         }

@@ -106,9 +106,18 @@ public final class BarsTest {
         due("no ring any more", x.arrow(3, 0), 4);
         due("to a bar that went", x.arrow(3, 1), Checks.UNKNOWN);
         due("states", x.count(13), 4);
+        longRing();
         fortyArrows();
         twoHundredArrows();
         Checks.end(3, "arrow");
+    }
+
+    /** A ring of arrows that came in the order in which it is not walked along. */
+    private static void longRing() {
+        BarStrips x = Checks.chart(0, 0, 1, 0, 1, 1, 0, 2, 1, 0, 3, 1, 0, 4, 1);
+        Checks.arrows(x, 3, 4, 2, 3, 1, 2, 0, 1);
+        due("a ring of five", x.arrow(4, 0), Checks.NOT_POSSIBLE);
+        due("no ring", x.arrow(0, 4), 4);
     }
 
     private static void fortyArrows() {
@@ -184,12 +193,14 @@ public final class BarsTest {
             x.type(sign);
         }
         due("a ring, ahead of an unknown bar", x.addAll(), Checks.NOT_POSSIBLE);
-        Checks.text(x, "0>2;0>3;0>4;0>5;1>3;1>4;1>5;2>4;2>5;3>5");
-        due("ten parts", x.addAll(), 10);
-        Checks.text(x, "1@0+1;1@1+1;6>7;0>6;1>6;2>6;3>6;4>6;5>6;0>7;1>7;2>7;3>7;4>7");
-        due("fourteen parts", x.addAll(), 14);
-        due("arrows", x.count(1), 27);
-        due("states", x.count(13), 3);
+        due("undo", x.undo(), 0);
+        Checks.text(x, "0@0+1;0@1+1;0@2+1;0@3+1;0@4+1;0@5+1");
+        due("six parts", x.addAll(), 6);
+        Checks.text(x, "0>1;0>2;0>3;0>4;0>5;1>2;1>3;1>4;1>5;2>3;2>4;2>5;3>4;3>5;4>5");
+        due("fifteen parts", x.addAll(), 15);
+        due("the last arrow leads from", x.arrowOf(14, 0), 4);
+        due("arrows", x.count(1), 15);
+        due("states", x.count(13), 2);
     }
 
     private static void noRoomForAll() {

@@ -74,6 +74,9 @@ public final class MovesTest {
         due("packed already", x.pack(), Checks.NONE);
         due("undo", x.undo(), 3);
         Checks.lanes(x, 5, 7, 3, 9, 2);
+        x = Checks.chart(4, 30, 9, 4, 20, 9, 5, 35, 9, 6, 0, 9, 7, 25, 9, 8, 5, 9, 9, 22, 4, 4, 9, 9);
+        due("three lanes", x.pack(), 3);
+        Checks.lanes(x, 0, 0, 1, 0, 2, 1, 1, 0);
         x = new BarStrips();
         for (int bar = 0; bar < 12; bar++) {
             due("bar " + bar, x.bar(11 - bar, 20, 5), bar);
@@ -147,6 +150,10 @@ public final class MovesTest {
         x = Checks.chart(0, 0, 5, 1, 9, 1);
         Checks.arrows(x, 0, 1);
         due("behind an arrow", x.pull(1), 4);
+        x = Checks.chart(0, 9, 2, 0, 1, 3, 0, 5, 2);
+        due("the first bar is the last one of its lane", x.pull(0), 2);
+        due("a push on", x.slip(1, 9), 3);
+        Checks.firstDays(x, 15, 10, 13);
         Checks.end(11, "pull");
     }
 }

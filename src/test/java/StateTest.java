@@ -147,6 +147,7 @@ public final class StateTest {
         due("undo of a restore", x.undo(), 0);
         due("bars", x.count(0), 1);
         undoEachAct();
+        afterCallsThatChangeNothing();
         Checks.end(17, "undo");
     }
 
@@ -162,6 +163,32 @@ public final class StateTest {
             due("undo of act " + act, x.undo(), 3);
             String after = Checks.told(x);
             due("act " + act + " is undone", withoutStates(after).equals(withoutStates(before)) ? 1 : 0, 1);
+        }
+    }
+
+    /** An act that comes after errors, questions and an undo does what it does without them. */
+    private static void afterCallsThatChangeNothing() {
+        for (int act = 0; act < 13; act++) {
+            BarStrips x = Checks.chart(3, 2, 4, 5, 9, 1, 3, 12, 2);
+            BarStrips y = Checks.chart(3, 2, 4, 5, 9, 1, 3, 12, 2);
+            Checks.arrows(x, 0, 1, 1, 2);
+            Checks.arrows(y, 0, 1, 1, 2);
+            x.keep();
+            y.keep();
+            due("swap", x.swap(3, 7), 0);
+            due("undo", x.undo(), 3);
+            Checks.text(x, "9@50+1;9@50+1");
+            due("addAll", x.addAll(), Checks.NOT_POSSIBLE);
+            due("bestLane", x.bestLane(1), 0);
+            Checks.text(x, "0@0+1");
+            Checks.text(y, "0@0+1");
+            due("pull", x.pull(0), 2);
+            due("undo", x.undo(), 3);
+            due("act " + act, act(x, act), act(y, act));
+            String same = withoutStates(Checks.told(y));
+            due("act " + act + " is the same", same.equals(withoutStates(Checks.told(x))) ? 1 : 0, 1);
+            due("undo", x.undo(), y.undo());
+            due("bestSwap after act " + act, x.bestSwap(0), y.bestSwap(0));
         }
     }
 

@@ -48,6 +48,18 @@ public final class TellingTest {
         x = Checks.chart(0, 198, 2);
         due("place of the day 198", x.barOf(0, 4), 396);
         due("the last strip", x.barOf(0, 9), 6);
+        x = Checks.chart(0, 50, 2, 0, 40, 3, 0, 60, 4, 0, 0, 5);
+        int[] behind = {2, 0, Checks.NONE, 1};
+        for (int bar = 0; bar < 4; bar++) {
+            due("next behind bar " + bar, x.barOf(bar, 11), behind[bar]);
+        }
+        due("strips of 30 days", x.barOf(1, 10), 1);
+        due("up to the last day of a strip", x.move(1, 0, 27), 0);
+        due("in one strip", x.barOf(1, 10), 1);
+        due("a day more", x.move(1, 0, 28), 0);
+        due("in two strips", x.barOf(1, 10), 2);
+        due("from the first day of a strip", x.move(1, 0, 30), 0);
+        due("its strip", x.barOf(1, 9), 1);
         x = Checks.chart(0, 0, 1, 1, 100, 1, 2, 0, 3, 2, 3, 2);
         due("a great slack", x.barOf(0, 6), 100);
         due("slack behind a bar", x.barOf(2, 6), 101 - 2 - 3);
@@ -88,7 +100,9 @@ public final class TellingTest {
         due("a point", x.arrowOf(0, 6), 1);
         due("a wide day", x.width(9, 10, 5), 2);
         due("width along it", x.arrowOf(0, 5), 19);
+        onToAnotherStrip();
         twoPoints();
+        noPoints();
         pointOnABend();
         edgesOfALane();
         Checks.end(21, "arrowOf");
@@ -98,10 +112,40 @@ public final class TellingTest {
         BarStrips x = Checks.chart(1, 0, 1, 3, 20, 1, 0, 0, 1, 2, 15, 1);
         Checks.arrows(x, 0, 1, 2, 3);
         due("the middle bend", x.set(0, 2), 0);
+        due("two points in all, asked first", x.count(5), 2);
         Checks.bends(x, 10, 8);
         due("two points", x.arrowOf(0, 6), 2);
         due("two points", x.arrowOf(1, 6), 2);
         due("two points in all", x.count(5), 2);
+    }
+
+    private static void onToAnotherStrip() {
+        BarStrips x = Checks.chart(0, 28, 2, 1, 30, 2, 2, 29, 1, 3, 29, 2);
+        Checks.arrows(x, 0, 1, 2, 1, 3, 1);
+        due("from the last day of a strip to the first one", x.arrowOf(0, 7), 1);
+        due("from a single day", x.arrowOf(1, 7), 1);
+        due("not drawn", x.arrowOf(2, 7), Checks.NONE);
+        due("late by one day", x.arrowOf(2, 3), 1);
+        due("late ones", x.count(4), 1);
+        due("an earlier day", x.move(0, 0, 27), 1);
+        due("from the day ahead of the last one", x.arrowOf(0, 7), 1);
+        x = Checks.chart(0, 30, 1, 1, 60, 2);
+        Checks.arrows(x, 0, 1);
+        due("from the first day of a strip", x.arrowOf(0, 7), 1);
+    }
+
+    /** Neither in the arrow's own lanes, nor along one that is not drawn. */
+    private static void noPoints() {
+        BarStrips x = Checks.chart(0, 0, 2, 2, 10, 2, 2, 0, 3, 2, 20, 2, 0, 20, 2);
+        Checks.arrows(x, 0, 1, 2, 1, 0, 4);
+        due("the middle bend", x.set(0, 2), 0);
+        due("in its own lanes", x.arrowOf(0, 6), 0);
+        due("points", x.count(5), 0);
+        x = Checks.chart(0, 0, 2, 4, 10, 2, 5, 0, 9, 2, 5, 2);
+        Checks.arrows(x, 0, 1, 2, 3);
+        Checks.bends(x, 2, Checks.NONE);
+        due("one is not drawn", x.arrowOf(0, 6), 0);
+        due("points", x.count(5), 0);
     }
 
     /** An arrow goes along its lane on both sides of its bend. */
@@ -146,6 +190,13 @@ public final class TellingTest {
         reasons(x, new int[] {1, 1, 0, 4, 4, 0, 4, 2, 2, 2, 2, 2, 2, 1});
         x.bar(0, 2, 1);
         reasons(x, new int[] {1, 1, 0, 2, 2, 2, 2, 2, 2, 2, 2, 2, 2, 1});
+        x = Checks.chart(1, 5, 4, 0, 0, 2, 2, 12, 2);
+        Checks.arrows(x, 1, 2);
+        reasons(x, new int[] {1, 1, 0, 0, 0, 0, 4, 4, 4, 0, 0, 0, 0, 1});
+        x.move(0, 2, 5);
+        reasons(x, new int[] {1, 1, 3, 3, 3, 3, 3, 3, 3, 0, 0, 0, 0, 1});
+        x.move(0, 0, 5);
+        reasons(x, new int[] {1, 1, 0, 0, 0, 0, 2, 2, 2, 2, 2, 2, 2, 1});
         x = Checks.chart(0, 0, 2, 0, 10, 1, 0, 5, 2, 1, 0, 30);
         Checks.arrows(x, 0, 1, 1, 3);
         reasons(x, new int[] {1, 1, 3, 3, 3, 3, 2, 2, 2, 2, 2, 1});
@@ -216,7 +267,20 @@ public final class TellingTest {
         x.takeBar(3);
         x.move(1, 3, 0);
         counts(x, new int[] {4, 2, 3, 2, 1, 0, 30, 4, 70, 1, 5, 4, 1, 4, 1, 2, 20});
+        firstOnes();
         Checks.end(25, "count");
+    }
+
+    private static void firstOnes() {
+        BarStrips x = Checks.chart(0, 4, 5, 1, 3, 2);
+        Checks.arrows(x, 0, 1);
+        due("the first bar is critical", x.count(9), 1);
+        due("the first arrow is late", x.count(4), 1);
+        due("late by one", x.move(1, 1, 8), 1);
+        due("late by one", x.count(4), 1);
+        due("not late", x.move(1, 1, 9), 0);
+        due("not late", x.count(4), 0);
+        due("both are critical", x.count(9), 2);
     }
 
     private static void counts(BarStrips x, int[] counts) {
@@ -273,6 +337,8 @@ public final class TellingTest {
         due("two lanes", x.share(), 8.0 / 12.0);
         x.width(2, 2, 9);
         due("a wide day", x.share(), 22.0 / 26.0);
+        x.takeBar(1);
+        due("one that went has no part in it", x.share(), 1.0);
         Checks.end(28, "share");
     }
 }

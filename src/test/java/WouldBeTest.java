@@ -76,6 +76,13 @@ public final class WouldBeTest {
         due("the swap", x.swap(0, 4), 1);
         int none = Checks.NONE;
         bests(x, none, none, none, none);
+        x = Checks.chart(3, 0, 2, 5, 6, 2, 0, 0, 30, 1, 0, 30, 2, 0, 30, 4, 0, 30);
+        Checks.arrows(x, 0, 1);
+        bests(x, 2, 5, 0, 0);
+        x.takeBar(5);
+        due("nothing to be better in", x.bestSwap(0), none);
+        due("undo", x.undo(), 3);
+        bests(x, 2, 5, 0, 0);
     }
 
     private static void bestLane() {

@@ -918,7 +918,7 @@ public final class BarStrips {
         }
     }
 
-    /** The bends of a chart's arrows, and the points at which these cross. */
+    /** The bends of a chart's arrows, and the points at which these cross, as it was drawn last. */
     private static final class Drawing {
         /** The bend of each arrow's slot, or NONE. */
         final int[] bend = new int[ARROWS];
@@ -967,7 +967,6 @@ public final class BarStrips {
         }
 
         int freeBends(Chart chart, int arrow) {
-            readBars(chart);
             int free = 0;
             int between = lanesBetween(chart, arrow);
             int high = highest(chart, arrow);

@@ -177,13 +177,13 @@ public final class StateTest {
             y.keep();
             due("swap", x.swap(3, 7), 0);
             due("undo", x.undo(), 3);
-            Checks.text(x, "9@50+1;9@50+1");
-            due("addAll", x.addAll(), Checks.NOT_POSSIBLE);
             due("bestLane", x.bestLane(1), 0);
-            Checks.text(x, "0@0+1");
-            Checks.text(y, "0@0+1");
             due("pull", x.pull(0), 2);
             due("undo", x.undo(), 3);
+            Checks.text(x, "9@50+1;9@50+1");
+            due("addAll", x.addAll(), Checks.NOT_POSSIBLE);
+            Checks.text(x, "0@0+1");
+            Checks.text(y, "0@0+1");
             due("act " + act, act(x, act), act(y, act));
             String same = withoutStates(Checks.told(y));
             due("act " + act + " is the same", same.equals(withoutStates(Checks.told(x))) ? 1 : 0, 1);

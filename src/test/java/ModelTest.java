@@ -64,7 +64,12 @@ public final class ModelTest {
     }
 
     private int near(int bound) {
-        return random.nextInt(40) == 0 ? random.nextInt(2 * bound) - bound / 2 : random.nextInt(bound);
+        switch (random.nextInt(80)) {
+            case 0: return random.nextInt();
+            case 1: return random.nextBoolean() ? Integer.MAX_VALUE : Integer.MIN_VALUE;
+            case 2: case 3: return random.nextInt(2 * bound) - bound / 2;
+            default: return random.nextInt(bound);
+        }
     }
 
     private int someBar() {

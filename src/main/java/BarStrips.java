@@ -1116,24 +1116,19 @@ public final class BarStrips {
             points = drawing.pointsInAll(chart);
             for (int one = 0; one < LANES; one++) {
                 for (int two = one + 1; two < LANES; two++) {
-                    if (isBetterSwapped(chart, drawing, one, two)) {
+                    if (!chart.hasBars(one) && !chart.hasBars(two)) {
+                        continue;
+                    }
+                    chart.exchangeLanes(one, two);
+                    if (isBetter(chart, drawing)) {
                         lane = one;
                         other = two;
                         found = true;
                     }
+                    chart.exchangeLanes(one, two);
                 }
             }
             return found;
-        }
-
-        boolean isBetterSwapped(Chart chart, Drawing drawing, int one, int two) {
-            if (!chart.hasBars(one) && !chart.hasBars(two)) {
-                return false;
-            }
-            chart.exchangeLanes(one, two);
-            boolean better = isBetter(chart, drawing);
-            chart.exchangeLanes(one, two);
-            return better;
         }
 
         boolean isBetter(Chart chart, Drawing drawing) {

@@ -6,6 +6,8 @@ import java.nio.charset.StandardCharsets;
 import java.nio.file.Files;
 import java.nio.file.Path;
 import java.util.Arrays;
+import java.util.HashMap;
+import java.util.Map;
 import java.util.TreeSet;
 import java.util.regex.Matcher;
 import java.util.regex.Pattern;
@@ -27,6 +29,7 @@ public final class LanguageTest {
         "\\bObject\\b", "\\bequals\\b", "\\bhashCode\\b", "\\btoString\\b", "\\bstatic \\{",
         "\\bprotected\\b", "\"", "\\bvar\\b", "\\bMath\\.(?!max\\b|min\\b|abs\\b)"};
     private static final int LONGEST_METHOD = 60;
+    private static final int DEEPEST_CALLS = 8;
 
     private static int failed;
 
@@ -40,6 +43,8 @@ public final class LanguageTest {
         test("no library but Arrays is imported (rule 4)", imports(code));
         test("methods are short (rule 11)", lengths(code));
         test("few classes, few fields (rule 11)", sizes());
+        test("calls go at most eight deep, the face's own one and the library's with them (rule 11)",
+            depths(code));
         test("signs are plain (rule 4)", source.chars().allMatch(c -> c == '\n' || c >= 32 && c < 127));
         if (failed > 0) {
             System.exit(1);
@@ -153,6 +158,48 @@ public final class LanguageTest {
             }
         }
         return good;
+    }
+
+    /** The body of each method, by the indent of its first line and its name. */
+    private static Map<String, String> bodies(String code) {
+        Map<String, String> bodies = new HashMap<>();
+        Matcher m = Pattern.compile("(?m)^( {4}| {8})(?:[\\w\\[\\]]+ )+(\\w+)\\([^)]*\\) \\{$").matcher(code);
+        while (m.find()) {
+            int end = code.indexOf("\n" + m.group(1) + "}", m.end());
+            bodies.put(m.group(1) + m.group(2), code.substring(m.end(), end));
+        }
+        return bodies;
+    }
+
+    private static boolean depths(String code) {
+        Map<String, String> bodies = bodies(code);
+        boolean good = bodies.size() > FACE.length;
+        for (String method : bodies.keySet()) {
+            if (depth(bodies, method, 0) > DEEPEST_CALLS) {
+                System.out.println("calls go too deep from " + method.strip());
+                good = false;
+            }
+        }
+        return good;
+    }
+
+    /** How deep calls go, a method that is none of the program's own being one deep. */
+    private static int depth(Map<String, String> bodies, String method, int above) {
+        if (!bodies.containsKey(method) || above > DEEPEST_CALLS) {
+            return 1;
+        }
+        int deepest = 0;
+        Matcher m = Pattern.compile("(\\.?)\\b(\\w+)\\(").matcher(bodies.get(method));
+        while (m.find()) {
+            if (!m.group(2).matches("if|for|while|switch|return")) {
+                String inner = " ".repeat(8) + m.group(2);
+                String outer = " ".repeat(4) + m.group(2);
+                boolean fromInside = method.startsWith(" ".repeat(8)) || !m.group(1).isEmpty();
+                boolean isInner = fromInside ? bodies.containsKey(inner) : !bodies.containsKey(outer);
+                deepest = Math.max(deepest, depth(bodies, isInner ? inner : outer, above + 1));
+            }
+        }
+        return deepest + 1;
     }
 
     private static boolean sizes() {

@@ -305,6 +305,13 @@ public final class ActsEdgesTest {
             count(1) 0
             takeBar(14) 0
             """);
+        Run.test("promise 5: a bar without arrows, 40 are there", THIRTY, FORTY, """
+            takeBar(29) 0
+            takeBar(14) 0
+            count(1) 40
+            arrowOf(39, 1) 13
+            barOf(28, 1) 28
+            """);
         Run.test("promise 5: 29 arrows go with a bar", THIRTY, """
             for 1..29: arrow(0, #) #-1
             takeBar(0) 29
@@ -446,6 +453,12 @@ public final class ActsEdgesTest {
             swap(0, 11) 0
             barOf(#, 0) 0 11 11
             """);
+        Run.test("promise 8: thirty bars in a lane", THIRTY, """
+            swap(0, 11) 0
+            for 0..29: barOf(#, 0) 11
+            swap(5, 11) 0
+            for 0..29: barOf(#, 0) 5
+            """);
         Run.test("promise 8: how many arrows are not drawn then", """
             bar(0, 0, 2) 0
             bar(1, 0, 30) 1
@@ -554,6 +567,17 @@ public final class ActsEdgesTest {
             slip(0, 1) NOT_POSSIBLE
             slip(1, 1) NOT_POSSIBLE
             """);
+        Run.test("promise 10: number 0 is behind the others", """
+            bar(0, 10, 2) 0
+            bar(0, 5, 2) 1
+            bar(1, 0, 5) 2
+            slip(1, 4) 2
+            barOf(#, 1) 11 9 0
+            arrow(2, 0) 0
+            slip(2, 7) 2
+            barOf(#, 1) 12 9 7
+            slip(0, 1) 1
+            """);
         Run.test("promise 10: how many have another first day", """
             bar(0, 0, 5) 0
             bar(0, 10, 5) 1
@@ -605,6 +629,16 @@ public final class ActsEdgesTest {
             pull(3) 2
             takeBar(0) 0
             pull(3) 3
+            """);
+        Run.test("promise 11: thirty bars, and number 0 is the last one of them", """
+            bar(0, 199, 1) 0
+            for 0..28: bar(0, #, 1) #+1
+            pull(0) 170
+            pull(0) NONE
+            for 1..29: pull(#) NONE
+            takeBar(1) 0
+            pull(0) NONE
+            pull(2) 1
             """);
         Run.test("promise 11: it comes from the last day to the first one", """
             bar(0, 199, 1) 0

@@ -23,6 +23,7 @@ public final class TellingEdgesTest {
         share();
         ifSlipped();
         bestSwap();
+        bestSwapWithTheLastLane();
         bestSwapBeforePoints();
         bestLane();
         Run.finish();
@@ -114,6 +115,23 @@ public final class TellingEdgesTest {
             barOf(0, 9) 39
             barOf(0, 10) 1
             """);
+        Run.test("promise 20: in how many strips, with a chart that goes on", """
+            set(1, 10) 60
+            bar(5, 199, 1) 0
+            bar(0, 0, 5) 1
+            barOf(1, 10) 1
+            move(1, 0, 1) 0
+            barOf(1, 10) 2
+            move(1, 0, 5) 0
+            barOf(1, 9) 1
+            barOf(1, 10) 1
+            bar(1, 4, 1) 2
+            barOf(2, 10) 1
+            bar(2, 4, 2) 3
+            barOf(3, 10) 2
+            bar(3, 4, 7) 4
+            barOf(4, 10) 3
+            """);
         Run.test("promise 20: in 30 strips", """
             bar(0, 170, 30) 0
             width(0, 199, 9) 200
@@ -142,6 +160,19 @@ public final class TellingEdgesTest {
             move(3, 0, 50) 0
             barOf(1, 11) 3
             barOf(3, 11) 2
+            """);
+        Run.test("promise 20: the bar that is next is number 0", """
+            bar(0, 10, 1) 0
+            bar(0, 0, 1) 1
+            bar(0, 20, 1) 2
+            bar(0, 30, 1) 3
+            barOf(1, 11) 0
+            barOf(0, 11) 2
+            barOf(2, 11) 3
+            """);
+        Run.test("promise 20: the next of 30 bars", THIRTY, """
+            for 0..28: barOf(#, 11) #+1
+            barOf(29, 11) NONE
             """);
         Run.test("promise 20: NONE is for what 11 alone, and only if the bar is there", """
             barOf(0, 11) UNKNOWN
@@ -698,6 +729,35 @@ public final class TellingEdgesTest {
             """);
     }
 
+    /** Each swap ahead of that one hinders another arrow: (0, 1), (0, 3) and (1, 2) by a bar for each. */
+    private static void bestSwapWithTheLastLane() {
+        Run.test("promise 30: the last lane, which has no bars, is the second one", """
+            bar(0, 0, 2) 0
+            bar(0, 40, 25) 1
+            bar(1, 0, 30) 2
+            bar(1, 40, 2) 3
+            bar(1, 110, 25) 4
+            bar(2, 20, 2) 5
+            bar(2, 60, 2) 6
+            bar(2, 110, 2) 7
+            bar(3, 0, 30) 8
+            bar(3, 130, 2) 9
+            for 4..10: bar(#, 0, 30) #+6
+            arrow(0, 5) 0
+            arrow(3, 6) 1
+            arrow(7, 9) 2
+            count(3) 1
+            bestSwap(#) 1 11 0 0
+            swap(0, 1) 1
+            undo() 3
+            swap(0, 3) 1
+            undo() 3
+            swap(1, 2) 1
+            undo() 3
+            swap(1, 11) 0
+            """);
+    }
+
     /** Charts that were found by a search. */
     private static void bestSwapBeforePoints() {
         Run.test("promise 30: fewer arrows not drawn are better, with more points, too", """
@@ -788,6 +848,20 @@ public final class TellingEdgesTest {
             move(2, 0, 6) 0
             bestLane(2) 0
             bestLane(1) 1
+            """);
+        Run.test("promise 31: the lowest, if 40 arrows are not drawn in all lanes", """
+            for 0..13: bar(5, 29-#, 1) #
+            for 4..13: arrow(0, #) #-4
+            for 4..13: arrow(1, #) #+6
+            for 4..13: arrow(2, #) #+16
+            for 4..13: arrow(3, #) #+26
+            count(3) 40
+            count(4) 40
+            bestLane(0) 0
+            bestLane(13) 0
+            bar(0, 29, 1) 14
+            bestLane(0) 1
+            bestSwap(0) NONE
             """);
         Run.test("promise 31: lane 11 is the one", """
             bar(9, 0, 2) 0

@@ -534,6 +534,20 @@ public final class TermsBarsEdgesTest {
             move(2, 3, 1) 0
             reason(0, #) 1 1 0 0 0 0 0 0 0 0 0 0 0 1
             """);
+        Run.test("terms: reasons 2, 3 and 4 by the bar of number 0", """
+            bar(0, 6, 2) 0
+            bar(0, 0, 2) 1
+            bar(3, 12, 2) 2
+            arrow(1, 2) 0
+            reason(0, #) 1 1 0 0 0 0 0 2 2 2 2 2 2 1
+            arrowOf(0, 4) 5
+            move(0, 3, 6) 0
+            reason(0, #) 1 1 3 3 3 3 3 3 0 0 0 0 0 1
+            arrowOf(0, 4) 5
+            move(0, 1, 6) 0
+            reason(0, #) 1 1 0 0 0 0 0 4 0 0 0 0 0 1
+            arrowOf(0, 4) 10
+            """);
         Run.test("terms: reason 4, one bar with both days", arrow, """
             bar(1, 4, 4) 2
             reason(0, #) 1 1 0 0 0 4 4 4 0 0 0 0 0 1
@@ -707,6 +721,28 @@ public final class TermsBarsEdgesTest {
             count(5) 0
             set(0, 0) 1
             count(5) 0
+            """);
+        Run.test("terms: no point in a lane of its own, the upper and the lower one, of either end", """
+            bar(3, 0, 2) 0
+            bar(3, 20, 2) 1
+            bar(5, 20, 2) 2
+            bar(1, 20, 2) 3
+            set(0, 2) 0
+            arrow(0, 1) 0
+            arrow(0, 2) 1
+            arrow(0, 3) 2
+            arrowOf(#, 2) 11 11 11
+            count(5) 0
+            bar(5, 0, 2) 4
+            bar(1, 0, 2) 5
+            arrow(4, 1) 3
+            arrow(5, 1) 4
+            arrowOf(#, 2) 11 11 11 11 11
+            count(5) 0
+            bar(2, 0, 2) 6
+            arrow(6, 2) 5
+            arrowOf(5, 2) 11
+            count(5) 1
             """);
         Run.test("terms: two points, one by each of the bends", """
             bar(1, 0, 1) 0

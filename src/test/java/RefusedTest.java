@@ -69,6 +69,14 @@ public final class RefusedTest {
         text 0>2
         """;
 
+    private static final String LAST_PART = """
+        bar(0, 5, 3) 0
+        bar(3, 12, 4) 1
+        arrow(0, 1) 0
+        width(3, 8, 4) 6
+        text 1@5+2;4@50+3;0>2;2>3;1>3;5@60+5;3>0
+        """;
+
     private static final String[] OFTEN_REFUSED = {
         "bar(-1, 0, 1) UNKNOWN", "bar(12, 0, 1) UNKNOWN", "bar(1, -1, 1) BAD_VALUE",
         "bar(1, 200, 1) BAD_VALUE", "bar(1, 30, 0) BAD_VALUE", "bar(1, 30, 31) BAD_VALUE",
@@ -139,6 +147,7 @@ public final class RefusedTest {
         refuse("200 arrows came", ARROWS_CAME, new String[] {
             "arrow(0, 2) FULL", "arrow(0, 1) NOT_POSSIBLE", "addAll() FULL", "takeArrow(198) UNKNOWN",
             "arrowOf(198, 0) UNKNOWN"});
+        refuse("a text whose last part is refused", LAST_PART, new String[] {"addAll() NOT_POSSIBLE"});
         Run.finish();
     }
 

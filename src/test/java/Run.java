@@ -53,7 +53,7 @@ final class Run {
             }
         }
 
-        private static Method methodOf(String name) {
+        static Method methodOf(String name) {
             for (Method m : BarStrips.class.getMethods()) {
                 if (m.getName().equals(name)) {
                     return m;

@@ -275,6 +275,32 @@ public final class TermsBarsEdgesTest {
             text 4@9+1;4@15+1
             addAll() 2
             """);
+        Run.test("terms: no day in common behind a slip, a pull, a swap, a packing and what is restored", """
+            bar(0, 0, 5) 0
+            bar(0, 7, 3) 1
+            bar(0, 10, 4) 2
+            bar(1, 2, 6) 3
+            slip(0, 4) 3
+            cell(0, #) NONE NONE NONE NONE 0 0 0 0 0 1 1 1 2 2 2 2 NONE
+            keep() 4
+            pull(0) 4
+            pull(1) 4
+            pull(2) 4
+            cell(0, #) 0 0 0 0 0 1 1 1 2 2 2 2 NONE NONE NONE NONE NONE
+            swap(0, 1) 0
+            cell(1, #) 0 0 0 0 0 1 1 1 2 2 2 2 NONE NONE NONE NONE NONE
+            cell(0, #) NONE NONE 3 3 3 3 3 3 NONE NONE NONE NONE NONE
+            pack() 2
+            cell(0, #) 0 0 0 0 0 1 1 1 2 2 2 2 NONE NONE NONE NONE NONE
+            cell(1, #) NONE NONE 3 3 3 3 3 3 NONE NONE NONE NONE NONE
+            restore() 4
+            cell(0, #) NONE NONE NONE NONE 0 0 0 0 0 1 1 1 2 2 2 2 NONE
+            undo() 3
+            undo() 2
+            cell(0, #) NONE NONE 3 3 3 3 3 3 NONE NONE NONE NONE NONE
+            bar(0, 7, 1) NOT_POSSIBLE
+            bar(0, 8, 1) 4
+            """);
         Run.test("terms: no day in common at both ends of the days", """
             bar(0, 0, 1) 0
             bar(0, 199, 1) 1
@@ -801,6 +827,22 @@ public final class TermsBarsEdgesTest {
             count(5) 1
             move(3, 4, 12) 0
             count(5) 0
+            """);
+        Run.test("terms: it goes along the one lane up to its bend, along the other one from there", """
+            bar(2, 1, 2) 0
+            bar(4, 14, 2) 1
+            bar(2, 8, 1) 2
+            bar(0, 0, 1) 3
+            bar(6, 30, 1) 4
+            set(0, 1) 0
+            arrow(0, 1) 0
+            arrow(3, 4) 1
+            arrowOf(0, 2) 8
+            for 3..3: move(4, 6, #) 0 | arrowOf(1, 2) # | count(5) 0
+            for 4..7: move(4, 6, #) 0 | arrowOf(1, 2) # | count(5) 1
+            for 8..8: move(4, 6, #) 0 | arrowOf(1, 2) # | count(5) 0
+            for 9..13: move(4, 6, #) 0 | arrowOf(1, 2) # | count(5) 1
+            for 14..14: move(4, 6, #) 0 | arrowOf(1, 2) # | count(5) 0
             """);
         Run.test("terms: a point on the other one's bend, if that stays in its lane", """
             bar(2, 0, 2) 0

@@ -811,6 +811,20 @@ public final class TermsBarsEdgesTest {
     }
 
     private static void crossingsAtEnds() {
+        Run.test("terms: two arrows along one lane are crossed at a point each, in one place, too", """
+            bar(2, 0, 1) 0
+            bar(2, 20, 1) 1
+            bar(4, 15, 1) 2
+            bar(0, 0, 1) 3
+            bar(3, 9, 1) 4
+            set(0, 1) 0
+            arrow(0, 1) 0
+            arrow(0, 2) 1
+            arrow(3, 4) 2
+            arrowOf(#, 2) 20 15 9
+            arrowOf(#, 6) 1 1 2
+            count(5) 2
+            """);
         Run.test("terms: a point needs the day ahead of the bend and the bend", """
             bar(2, 1, 2) 0
             bar(2, 12, 3) 1
